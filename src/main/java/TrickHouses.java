@@ -663,10 +663,9 @@ public final class TrickHouses {
             }
         }
 
-        /** NONE for all that is no digit, as a difference from '0' may wrap. */
+        /** Beyond 0 .. 9 for all that is no digit. */
         private int digitAt(int place) {
-            int code = codeAt(place);
-            return code >= '0' && code <= '9' ? code - '0' : NONE;
+            return codeAt(place) - '0';
         }
     }
 

@@ -109,6 +109,11 @@ public final class SeenTest {
         x.back(1);
         due.is("a plain house", x.kinds(0), 1);
         due.is("any kind", x.kinds(1), 7);
+        TrickHouses y = Due.told("x;d016;l236,63");
+        for (int h = 0; h < 2; h++) {
+            due.is("kinds(" + h + ") for one with all gear", y.kinds(h), 7);
+            due.is("its kind stays", y.ofHouse(h, 0), 1 + h);
+        }
     }
 
     private static void readingsThatClash() {
@@ -138,6 +143,8 @@ public final class SeenTest {
         TrickHouses y = Due.told("x;l016,01,02,03,03,63");
         odds(y, 0, 1, 4);
         odds(y, 1, 9, 20);
+        odds(Due.told("x;l006,01,01,01"), 1, 1, 3);
+        odds(Due.told("x;l016;h226,05,07"), 0, 1, 2);
         TrickHouses z = Due.told("x;l006,01");
         odds(z, 0, 1, 1);
         TrickHouses five = Due.told("x;l006,01,01,01,01,01");

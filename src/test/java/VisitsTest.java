@@ -142,6 +142,9 @@ public final class VisitsTest {
         pairs(x, numbers);
         due.is("the twentieth", x.visits(1, 2, 1, 20, 1), 19);
         due.is("who", x.visits(1, 2, 1, 20, 0), 2);
+        due.is("but for the last", x.visits(1, 2, 1, 19, 0), 0);
+        pairs(x, 1, 0, 2, 0, 4, 9);
+        due.is("what comes behind is not looked at", x.visits(1, 2, 0, 2, 0), 2);
     }
 
     private static void going(TrickHouses x, String name, int[] order, int through, int... lostIn) {
@@ -163,6 +166,7 @@ public final class VisitsTest {
         going(y, "the strong one first", new int[] {4, 0, 1, 2, 3}, 20, 0, 0, -9, 0, -9);
         Due.row(y, 9, 2, 0, 9);
         due.is("from 1 on", y.going(1, 2, 1, 2, 0), 5);
+        due.is("but for the last", y.going(1, 2, 1, 1, 0), 4);
     }
 
     private static void goingsRefused() {
