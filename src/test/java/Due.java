@@ -5,9 +5,15 @@ final class Due {
     private final String test;
     private int wrong = 0;
     private int asked = 0;
+    private String sentence = "";
 
     Due(String test) {
         this.test = test;
+    }
+
+    /** The words of the document that the next answers are due by; they are told with a wrong one. */
+    void by(String words) {
+        sentence = words;
     }
 
     void is(String call, long got, long want) {
@@ -15,6 +21,9 @@ final class Due {
         if (got != want) {
             wrong++;
             System.out.println(test + ": " + call + " answered " + got + ", due is " + want);
+            if (!sentence.isEmpty()) {
+                System.out.println("    by: " + sentence);
+            }
         }
     }
 
@@ -51,9 +60,13 @@ final class Due {
 
     /** Sheet 1 gets the numbers as a row of ints. */
     static void row(TrickHouses x, int... numbers) {
-        x.sheet(1, 2, numbers.length);
+        fill(x, 1, 2, numbers);
+    }
+
+    static void fill(TrickHouses x, int sheet, int lane, int... numbers) {
+        x.sheet(sheet, lane, numbers.length);
         for (int p = 0; p < numbers.length; p++) {
-            x.put(1, p, numbers[p]);
+            x.put(sheet, p, numbers[p]);
         }
     }
 }
