@@ -19,6 +19,7 @@ public final class EdgesTest {
         promise7();
         promise8();
         promise8ByTwenty();
+        promise8PairByPair();
         promise9();
         promises10And11();
         promise12();
@@ -210,6 +211,30 @@ public final class EdgesTest {
             due.is("nineteen", x.visits(2, lane, 20, 19, 0), 0);
             due.is("twenty from one cell on", x.visits(2, lane, 21, 20, 0), -13);
             due.is("twenty-one", x.visits(2, lane, 18, 21, 0), -2);
+        }
+    }
+
+    private static void promise8PairByPair() {
+        due.by("pair by pair OUTSIDE: a PARTY has a bit of no GUEST; UNKNOWN: HOUSE");
+        for (int k = 0; k < 20; k++) {
+            TrickHouses x = Due.told("x;h006;h006,01,01");
+            int[] cells = new int[40];
+            for (int p = 0; p < 40; p++) {
+                cells[p] = p % 2 == 0 ? 3 : 1;
+            }
+            cells[2 * k] = 4;
+            Due.row(x, cells);
+            due.is("the party of pair " + k, x.visits(1, 2, 0, 20, 0), -2);
+            due.is("the pairs ahead of it", x.visits(1, 2, 0, k, 0), 0);
+            x.put(1, 2 * k + 1, 2);
+            due.is("its house, too", x.visits(1, 2, 0, 20, 0), -2);
+            x.put(1, 2 * k, 3);
+            due.is("its house", x.visits(1, 2, 0, 20, 0), -1);
+            x.put(1, 39, 2);
+            x.put(1, 38, k == 19 ? 3 : 4);
+            due.is("the last pair, too", x.visits(1, 2, 0, 20, 0), -1);
+            x.put(1, 2 * k + 1, k == 19 ? 2 : 1);
+            due.is("the last pair alone", x.visits(1, 2, 0, 20, 0), k == 19 ? -1 : -2);
         }
     }
 
@@ -568,7 +593,7 @@ public final class EdgesTest {
         x.knock(0);
         due.is("trace()", x.trace(), 4);
         due.is("trace() again", x.trace(), 4);
-        x.sheet(0, 0, 1);
+        due.is("a text is taken", Due.tell(x, LEAST_TEXT), 1);
         x.lose(0);
         due.is("trace() stays", x.trace(), 4);
     }
@@ -585,7 +610,7 @@ public final class EdgesTest {
         x.lose(0);
         x.lose(9);
         x.odds(0, 0);
-        due.is("calls that name none", x.fault(), 1);
+        due.is("calls that name none, refused", x.fault(), 1);
         due.is("asked again", x.fault(), 1);
         x.sheet(0, 0, 2);
         due.is("came to none", x.fault(), 0);
@@ -611,6 +636,25 @@ public final class EdgesTest {
         x.sheet(0, 0, -1);
         x.copy(0, 0, 0, 0, 0);
         due.is("came to none", x.fault(), 0);
+        Due.tell(x, LONGEST);
+        x.sheet(3, 0, -1);
+        String[] others = {"least", "hard", "trace"};
+        for (String name : others) {
+            Call.on(x, name);
+            due.is("fault() behind " + name, x.fault(), 4);
+        }
+        String[] ofOne = {"gear", "best", "twos", "gift", "worst", "kinds", "lose", "tell", "knock", "many", "back"};
+        for (String name : ofOne) {
+            Call.on(x, name, 0);
+            due.is("fault() behind " + name, x.fault(), 4);
+        }
+        String[] ofTwo = {"ofHouse", "give", "bar", "reading", "had", "odds"};
+        for (String name : ofTwo) {
+            Call.on(x, name, 0, 0);
+            due.is("fault() behind " + name, x.fault(), 4);
+        }
+        x.passes(0, 0, 0);
+        due.is("fault() behind passes", x.fault(), 4);
     }
 
     private static void promise31() {

@@ -225,7 +225,7 @@ public final class TermsTest {
     }
 
     private static void oneHouseOrGuestTooMany() {
-        due.by("(the ; of a seventh HOUSE, the , of a sixth GUEST)");
+        due.by("the ; of a seventh HOUSE, the , of a sixth GUEST");
         String six = "x;h000;d111;l222;h333;d444;l556";
         String five = ",00,09,10,60,63";
         due.is("a ; behind six", Due.tell(new TrickHouses(), six + ";"), -131);
@@ -290,11 +290,12 @@ public final class TermsTest {
     }
 
     private static void usefulButKnown() {
-        due.by("USEFUL in a HOUSE: GEAR that a PARTY has, but [..] what its host KNOWS");
+        due.by("USEFUL in a HOUSE: GEAR that a PARTY (some GUESTS, all their GEAR together) has, but [..] what its host "
+            + "KNOWS");
         TrickHouses x = Due.told("x;h016;d016;l016,00");
-        int[][] due6 = {{0, 1, 3, 1}, {1, 2, NONE, 2}, {2, 1, NONE, 1}, {3, NONE, NONE, NONE}, {60, 1, 3, 1},
+        int[][] rows = {{0, 1, 3, 1}, {1, 2, NONE, 2}, {2, 1, NONE, 1}, {3, NONE, NONE, NONE}, {60, 1, 3, 1},
             {63, NONE, NONE, NONE}, {61, 2, NONE, 2}};
-        for (int[] row : due6) {
+        for (int[] row : rows) {
             for (int h = 0; h < 3; h++) {
                 due.is("house " + h + " whose host knows " + row[0], x.passes(h, 63, row[0]), row[1 + h]);
             }
