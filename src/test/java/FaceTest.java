@@ -33,6 +33,10 @@ public final class FaceTest {
         for (Field field : TrickHouses.class.getDeclaredFields()) {
             if (!Modifier.isPrivate(field.getModifiers())) {
                 open.add(field.getName());
+                due.is("public static final, " + field.getName(), field.getModifiers(),
+                    Modifier.PUBLIC | Modifier.STATIC | Modifier.FINAL);
+                Class<?> type = field.getName().equals("LOST") ? long.class : int.class;
+                due.holds(type + " " + field.getName(), field.getType() == type);
             }
             boolean state = Modifier.isStatic(field.getModifiers()) && !Modifier.isFinal(field.getModifiers());
             due.holds("no static state in " + field.getName(), !state);
